@@ -514,8 +514,9 @@ public final class StairPortraits {
         int firstHourBy(int door, int thing, int from) {
             int first = NEVER;
             for (int i = 0; i < comings; i++) {
-                if (comingDoor[i] == door && comingThing[i] == thing && comingHour[i] >= from) {
-                    first = Math.min(first, comingHour[i]);
+                boolean isIt = comingDoor[i] == door && comingThing[i] == thing;
+                if (isIt && comingHour[i] >= from && comingHour[i] < first) {
+                    first = comingHour[i];
                 }
             }
             return first;
@@ -652,16 +653,17 @@ public final class StairPortraits {
 
         /** The things that a picture takes over when it is told them. */
         int openTo(int p) {
-            if (isBlind(p) || isTurnedToWall(p)) {
+            int itsKind = kind[p];
+            if (itsKind == LANDSCAPE || itsKind == MIRROR || (turnedToWall >> p & 1) != 0) {
                 return 0;
             }
-            return kind[p] == PROFILE ? EVEN_THINGS : ALL_THINGS;
+            return itsKind == PROFILE ? EVEN_THINGS : ALL_THINGS;
         }
 
         /** By whom a picture is told: a picture; FIRST_DOOR and a door; NONE. */
         int sourceOf(int p) {
             int source = looks[p];
-            return has(source) && kind[source] == FAKE ? NONE : source;
+            return source >= 0 && source < count && kind[source] == FAKE ? NONE : source;
         }
 
         void passOneHour(Plan plan) {

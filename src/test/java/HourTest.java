@@ -5,6 +5,7 @@ public final class HourTest {
         kindsLearn();
         turnedToWall();
         refusals();
+        fullOfHours();
         drift();
         driftOfNobody();
         seed();
@@ -68,6 +69,20 @@ public final class HourTest {
         StairPortraits none = new StairPortraits();
         Check.due("drift(1) without a wall", none.drift(1), Check.NOT);
         Check.due("drift(61) without a wall", none.drift(61), Check.OUTSIDE);
+    }
+
+    /** More calls than are promised: the document's bound is out of reach of 512. */
+    private static void fullOfHours() {
+        StairPortraits s = Check.stairs("w1 1;p0 0 0 0;");
+        for (int k = 0; k < 1500; k++) {
+            s.hour(60);
+        }
+        Check.due("90000 hours", s.told(6), 90000);
+        Check.due("one more", s.drift(1), 90001);
+        Check.due("hour above 90000", s.hour(1), Check.FULL);
+        Check.due("drift above 90000", s.drift(1), Check.FULL);
+        Check.due("hour(61) above 90000", s.hour(61), Check.OUTSIDE);
+        Check.due("refused", s.told(6), 90001);
     }
 
     /** The draws, gone through once more beside the class. */
