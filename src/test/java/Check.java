@@ -1,3 +1,6 @@
+import java.util.ArrayList;
+import java.util.List;
+
 /** What the tests share: objects made from a text, and a count of the answers that are not due. */
 final class Check {
     static final int NONE = StairPortraits.NONE;
@@ -6,22 +9,37 @@ final class Check {
     static final int NOT = StairPortraits.NOT;
     static final int FULL = StairPortraits.FULL;
 
+    /** Each a heading of the document and words that stand below it. */
+    static final List<String[]> SENTENCES = new ArrayList<>();
+
+    private static String sentence = "";
     private static int wrong = 0;
 
     private Check() {
     }
 
+    /** From here on answers are due by these words of the document. */
+    static void sentence(String heading, String words) {
+        SENTENCES.add(new String[] {heading, words});
+        sentence = heading + " (" + words + ") ";
+    }
+
+    /** From here on no sentence is tested. */
+    static void endOfSentences() {
+        sentence = "";
+    }
+
     static void due(String call, long got, long want) {
         if (got != want) {
             wrong++;
-            System.out.println(call + " answered " + got + ", due is " + want);
+            System.out.println(sentence + call + " answered " + got + ", due is " + want);
         }
     }
 
     static void due(String what, boolean holds) {
         if (!holds) {
             wrong++;
-            System.out.println(what + " does not hold");
+            System.out.println(sentence + what + " does not hold");
         }
     }
 
@@ -37,6 +55,21 @@ final class Check {
         feed(stairs, text);
         due("house() of " + text, stairs.house() >= 0);
         return stairs;
+    }
+
+    static void fault(String text, int number, int letter) {
+        houseAnswers(text, -10 - number, letter);
+    }
+
+    static void good(String text, int pictures) {
+        houseAnswers(text, pictures, NONE);
+    }
+
+    private static void houseAnswers(String text, int answer, int letter) {
+        StairPortraits stairs = new StairPortraits();
+        feed(stairs, text);
+        due("house() of '" + text + "'", stairs.house(), answer);
+        due("fault() of '" + text + "'", stairs.fault(), letter);
     }
 
     static void end() {

@@ -1,0 +1,29 @@
+import java.io.IOException;
+import java.nio.file.Files;
+import java.nio.file.Path;
+
+/**
+ * Each sentence of the document that names a boundary case, by a test of its own: the words stand at its head.
+ * Behind them the words are held against the document itself, so that no sentence is left out.
+ * Run from the project's root.
+ */
+public final class BoundaryTest {
+    private static final Path DOCUMENT = Path.of("..", "shared", "DOC.md");
+
+    public static void main(String[] args) throws IOException {
+        TermsBounds.all();
+        TextBounds.all();
+        LookBounds.all();
+        TriedBounds.all();
+        NotesBounds.all();
+        HouseBounds.all();
+        CallBounds.all();
+        Check.endOfSentences();
+        if (Files.exists(DOCUMENT)) {
+            new Document(DOCUMENT).compare(Check.SENTENCES);
+        } else {
+            System.out.println("no " + DOCUMENT + ": the sentences are not held against it");
+        }
+        Check.end();
+    }
+}
