@@ -224,7 +224,7 @@ public final class StairPortraits {
         int unseen = 0;
         int coming = plan.thingsOfComings();
         for (int t = 0; t < THINGS; t++) {
-            if (holds(coming, t) && now.knowersBehind(plan, t, n) == 0) {
+            if (holds(coming, t) && !now.isKnownBehind(plan, t, n)) {
                 unseen |= 1 << t;
             }
         }
@@ -712,14 +712,13 @@ public final class StairPortraits {
             return things;
         }
 
-        int knowersBehind(Plan plan, int t, int n) {
-            int pictures = 0;
+        boolean isKnownBehind(Plan plan, int t, int n) {
             for (int p = 0; p < count; p++) {
                 if (hoursUntil(plan, p, t) <= n) {
-                    pictures |= 1 << p;
+                    return true;
                 }
             }
-            return pictures;
+            return false;
         }
 
         int draw(int n) {

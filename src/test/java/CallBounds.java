@@ -34,7 +34,8 @@ final class CallBounds {
         Check.due("told(6)", s.told(6), 61);
         StairPortraits seven = Check.stairs(TriedBounds.CHAIN + "e0 0 1;");
         seven.hour(7);
-        Check.due("behind 7 hours", seven.told(8) + seven.picture(6, 4) + seven.picture(7, 4), 4);
+        Check.due("behind 7 hours the seventh knows", seven.picture(6, 4), 2);
+        Check.due("behind 7 hours the eighth does not", seven.picture(7, 4), 0);
         Check.due("an empty wall", Check.stairs("w1 1;").hour(60), 60);
         Check.sentence("Promise 12", "OUTSIDE, NOT: no WALL;");
         Check.due("hour(0)", s.hour(0), Check.OUTSIDE);

@@ -11,6 +11,7 @@ final class HouseBounds {
         feedRefused();
         houseEmptiesText();
         houseMakesNew();
+        houseOnHouse();
         houseWithFault();
         fault();
         told();
@@ -127,6 +128,33 @@ final class HouseBounds {
         Check.good("w1 1;", 0);
         Check.good("w1 1;p0 0 0 0;", 1);
         Check.good("w7 7;p0 0 0 0;p0 1 0 0;p0 2 0 0;p0 3 0 0;p0 4 0 0;p0 5 0 0;p0 6 0 0;p0 0 1 0;", 8);
+    }
+
+    private static void houseOnHouse() {
+        Check.sentence("Promise 3", "becomes THE HOUSE");
+        String full = "w7 6;d0 0;d1 0;d2 0;d3 0;p0 0 1 3;p0 1 1 3;p0 2 1 3;p0 3 1 3;p0 4 1 3;p0 5 1 3;p0 6 1 3;p0 0 2 3;"
+            + "e0 0 0;e0 0 0;e0 0 0;e0 0 0;e0 0 0;e0 0 0;e0 0 0;e0 0 0;s0 0;s0 1;s0 2;s0 3;s0 4;s0 5;s0 6;s0 7;";
+        // Whatever two full houses have left behind, the third is told by its own text alone.
+        for (String text : new String[] {"", "w1 2;", "w1 2;p0 0 0 0;d0 1;e5 0 6;s0 6;"}) {
+            StairPortraits s = new StairPortraits();
+            houseOf(s, full);
+            houseOf(s, "w3 3;p0 0 0 0;s0 0;s0 1;s0 2;s0 3;s0 4;s0 5;s0 6;s0 7;");
+            Check.feed(s, text);
+            boolean all = text.length() > 5;
+            Check.due("house() of '" + text + "'", s.house(), all ? 1 : 0);
+            Check.due("W", s.told(0), text.isEmpty() ? 0 : 1);
+            Check.due("H", s.told(1), text.isEmpty() ? 0 : 2);
+            Check.due("pictures", s.told(2), all ? 1 : 0);
+            Check.due("doors", s.told(3), all ? 1 : 0);
+            Check.due("comings", s.told(4), all ? 1 : 0);
+            Check.due("what is known", s.told(8), all ? 64 : 0);
+            Check.due("what is hidden", s.hidden(60), 0);
+        }
+    }
+
+    private static void houseOf(StairPortraits s, String text) {
+        Check.feed(s, text);
+        Check.due("house() of " + text, s.house() >= 0);
     }
 
     private static void houseWithFault() {

@@ -206,6 +206,15 @@ final class NotesBounds {
         s.seed(2147483647);
         s.drift(1);
         Check.due("the seed behind the greatest", s.seed(0), 1043980748);
+        // What the seed is, what it becomes, and whether that dusts: 0, 65535, 65536, 4 * 65536 - 1, 4 * 65536, 2 to the 31 less 1.
+        int[] seeds = {2088216195, 2032319262, 1742513795, 995212062, 705406595, 230538014};
+        int[] ways = {1, 1, 0, 0, 1, 0};
+        for (int k = 0; k < seeds.length; k++) {
+            StairPortraits one = Check.stairs("w1 1;p0 0 0 0;");
+            one.seed(seeds[k]);
+            one.drift(1);
+            Check.due("the way by seed " + seeds[k], one.picture(0, 3), ways[k]);
+        }
         // By seed 0 the draw of 4 is 0, the draw of pictures 21468, left over by how many there are.
         int[] dusted = {0, 0, 0, 0, 3, 0, 6, 4};
         for (int n = 1; n <= 8; n++) {

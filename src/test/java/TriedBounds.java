@@ -178,13 +178,15 @@ final class TriedBounds {
         s.wall(2, true);
         Check.due("it is turned itself", s.walled(2, 1, 30, 0), 0);
         StairPortraits mirror = Check.stairs("w3 3;d2 2;p0 0 0 0;p5 2 0 0;e0 0 1;");
-        Check.due("a mirror", mirror.walled(0, 1, 1, 1), 2);
+        Check.due("a mirror", mirror.walled(0, 1, 1, 0), 1);
+        Check.due("a mirror: the set", mirror.walled(0, 1, 1, 1), 2);
     }
 
     private static void walledLeastSet() {
         Check.sentence(SECTION, "of like ones the least SET; NONE.");
         StairPortraits s = Check.stairs("w6 1;d0 0;p0 4 0 2;p0 5 0 3;p0 1 0 2;p0 3 0 2;p0 2 0 2;e0 0 1;");
         Check.due("2, 3 or 4: the least", s.walled(0, 1, 9, 1), 4);
+        Check.due("2, 3 or 4: how many", s.walled(0, 1, 9, 0), 1);
         s.hour(1);
         Check.due("2 knows, but turned to the wall it is looked at by nobody", s.walled(0, 1, 9, 1), 4);
         s.hour(1);
