@@ -17,6 +17,7 @@ final class NotesBounds {
         cameWays();
         askBest();
         askNone();
+        cameOfEight();
         book();
         draws();
         drawsLeftOver();
@@ -163,6 +164,19 @@ final class NotesBounds {
         none.ask(0, 2, false);
         Check.due("no way fits", none.next(2), Check.NONE);
         Check.due("nobody hangs there", behindHours("w1 1;d0 0;", 9).next(0), Check.NONE);
+    }
+
+    private static void cameOfEight() {
+        Check.sentence(SECTION, "the PICTURE by which these ways are told apart best:");
+        StairPortraits s = behindHours(TriedBounds.CHAIN, 14);
+        Check.due("14 ways", s.came(1, -1), 14);
+        Check.due("the eighth of eight knows of the first seven", s.next(1), 7);
+        s.ask(7, 1, true);
+        Check.due("the seven", s.came(1, -1), 7);
+        Check.due("the last of the seven", s.came(1, 6), 60);
+        Check.due("nobody knows of those apart", s.next(1), Check.NONE);
+        s.ask(7, 1, false);
+        Check.due("none", s.came(1, -1), 0);
     }
 
     private static void book() {

@@ -17,6 +17,7 @@ final class TriedBounds {
         hidden();
         turnWithinHours();
         turnFewest();
+        turnOfEight();
         turnFirstOfOne();
         turnFirstOfTwo();
         walled();
@@ -114,6 +115,17 @@ final class TriedBounds {
         Check.due("itself and two more", away.turns(2, 1, 0, 30, -1), Check.NONE);
         away.wall(0, true);
         Check.due("one turned to the wall", away.turns(0, 1, 0, 30, -1), Check.NONE);
+    }
+
+    private static void turnOfEight() {
+        Check.sentence(SECTION, "the fewest PICTURES (0 .. 2) that must look another way than now");
+        StairPortraits s = Check.stairs("w7 2;d0 0;p3 0 1 0;p3 1 1 0;p3 2 1 0;p3 3 1 0;p3 4 1 0;p3 5 1 0;p0 1 0 0;p0 2 0 0;e0 0 1;");
+        Check.due("the last two of eight", s.turns(7, 1, 0, 9, -1), 2);
+        Check.due("the seventh", s.turns(7, 1, 0, 9, 0), 62);
+        Check.due("the eighth", s.turns(7, 1, 0, 9, 1), 72);
+        Check.due("the last of eight alone", s.turns(6, 1, 0, 9, 0), 62);
+        Check.due("no two of eight", s.turns(7, 2, 0, 9, -1), Check.NONE);
+        Check.due("no two of eight, the others all but one", s.turns(7, 1, 127, 9, -1), Check.NONE);
     }
 
     private static void turnFirstOfOne() {
