@@ -8,6 +8,8 @@ import java.nio.file.Path;
 import java.util.ArrayList;
 import java.util.List;
 import java.util.TreeSet;
+import java.util.regex.Matcher;
+import java.util.regex.Pattern;
 
 /** The face of the document, and the rules of LANGUAGE.md that a machine can see. Run from the project's root. */
 public final class LanguageTest {
@@ -18,11 +20,14 @@ public final class LanguageTest {
         "hidden(int)", "turns(int,int,int,int,int)", "walled(int,int,int,int)", "kinds(int,int,int)", "all(int,int)",
         "common(int)", "safe(int,int)", "ask(int,int,boolean)", "came(int,int)", "next(int)", "write(int,int)",
         "tear()", "judge()", "seed(int)", "keep(int)", "goBack(int)"};
+    private static final List<String> LIBRARY = List.of("Math.max", "Math.min", "Arrays.fill", "System.arraycopy");
 
     public static void main(String[] args) throws IOException {
         face();
         classes();
         source();
+        library();
+        lengths();
         Check.end();
     }
 
@@ -95,8 +100,12 @@ public final class LanguageTest {
         }
     }
 
+    private static String withoutComments() throws IOException {
+        return Files.readString(SOURCE).replaceAll("(?s)/\\*.*?\\*/", " ").replaceAll("//[^\n]*", " ");
+    }
+
     private static void source() throws IOException {
-        String text = Files.readString(SOURCE).replaceAll("(?s)/\\*.*?\\*/", " ").replaceAll("//[^\n]*", " ");
+        String text = withoutComments();
         String[] words = {"throw", "throws", "try", "catch", "finally", "synchronized", "assert", "package", "protected", "native",
             "volatile", "Object", "Math\\.\\w+Exact"};
         for (String word : words) {
@@ -107,5 +116,41 @@ public final class LanguageTest {
         for (int k = 0; k < text.length(); k++) {
             Check.due("plain letters in the source", text.charAt(k) < 128);
         }
+    }
+
+    /** What is called of the library is of rule 4; and all that is made is of an own class or a row of numbers. */
+    private static void library() throws IOException {
+        String text = withoutComments();
+        Matcher call = Pattern.compile("\\b([A-Z]\\w*\\.\\w+)\\s*\\(").matcher(text);
+        while (call.find()) {
+            Check.due(call.group(1) + " is of the library that may be used", LIBRARY.contains(call.group(1)));
+        }
+        TreeSet<String> own = new TreeSet<>();
+        for (Class<?> c : all()) {
+            own.add(c.getSimpleName());
+        }
+        Matcher made = Pattern.compile("\\bnew\\s+(\\w+)").matcher(text);
+        while (made.find()) {
+            Check.due("new " + made.group(1), made.group(1).equals("int") || own.contains(made.group(1)));
+        }
+    }
+
+    /** Rule 11: a method stays short. It ends where a brace closes as far in as the method began. */
+    private static void lengths() throws IOException {
+        List<String> lines = Files.readAllLines(SOURCE);
+        Pattern head = Pattern.compile("^((?:    ){1,2})[\\w\\[\\]]+(?: [\\w\\[\\]]+)*\\(.*\\) \\{$");
+        int methods = 0;
+        for (int start = 0; start < lines.size(); start++) {
+            Matcher line = head.matcher(lines.get(start));
+            if (line.matches()) {
+                methods++;
+                int end = start;
+                while (end < lines.size() && !lines.get(end).equals(line.group(1) + "}")) {
+                    end++;
+                }
+                Check.due("at most sixty lines:" + lines.get(start), end < lines.size() && end - start < 60);
+            }
+        }
+        Check.due("methods are found: " + methods, methods > FACE.length);
     }
 }
